@@ -686,7 +686,7 @@ public final class RecordBridge {
         return weighSecondBody(v) + YOUNGER_MARK + ELDER_MARK;
     }
 
-    /** What LANES do with numbers. Floats are reckoned by their bits: the language's own have no way to them. */
+    /** What LANES do with numbers. Floats are reckoned by their bits: LANGUAGE.md has no way from a float to them. */
     private static final class Lanes {
         static final int TRUTH = 0, BYTE = 1, SIGN = 2, SHORT = 3, INT = 4, LONG = 5;
         static final int FLOAT = 6, DOUBLE = 7, THING = 8, ROW = 9;
@@ -1149,7 +1149,7 @@ public final class RecordBridge {
                     }
                     return true;
                 case RULE_WHOLE:
-                    return isWhole(e);
+                    return hasEveryPart(e);
                 default:
                     return true;
             }
@@ -1200,7 +1200,7 @@ public final class RecordBridge {
             parts[1] = Lanes.come(e.lanes[1], first);
         }
 
-        private boolean isWhole(Edition e) {
+        private boolean hasEveryPart(Edition e) {
             for (int k = 0; k < e.count; k++) {
                 if (!Lanes.isNumber(e.lanes[k]) && parts[k] == NOTHING) {
                     return false;

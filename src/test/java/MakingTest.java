@@ -268,16 +268,19 @@ public final class MakingTest {
         x.hand(2, 2, false);
         Check.due("18 a size of 300", x.make(pair), 3);
         Check.due("18 size", x.of(3, 2), 300);
+        x.row(8, 1);
+        int single = x.told(0) - 1;
+        x.lay(single, 0, 0);
         int rows = x.told(0);
         x.hand(0, 6, true);
-        x.hand(1, 6, true);
+        x.hand(1, single, true);
         x.hand(2, 2, false);
-        Check.due("18 above 300", x.make(pair), FULL);
+        Check.due("18 a size of 301", x.make(pair), FULL);
         Check.due("18 no twins came of it", x.told(0), rows);
         Check.due("18 no fault came of it", x.told(5), 0);
         x.hand(2, -1, false);
         Check.due("18 the tray is as it was", x.make(pair), 4);
-        Check.due("18 size", x.of(4, 2), 5);
+        Check.due("18 size", x.of(4, 2), 4);
     }
 
     private static void deepIsFull() {
