@@ -77,7 +77,7 @@ public final class LanesTest {
         return false;
     }
 
-    private static Object comes(int lane, long v) {
+    static Object comes(int lane, long v) {
         switch (lane) {
             case 0: return v % 2 != 0;
             case 1: return (byte) v;

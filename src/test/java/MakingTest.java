@@ -25,16 +25,8 @@ public final class MakingTest {
 
     private static RecordBridge with(int rule, int... lanes) {
         RecordBridge x = new RecordBridge();
-        addKind(x, rule, lanes);
+        Kinds.addKind(x, rule, lanes);
         return x;
-    }
-
-    private static int addKind(RecordBridge x, int rule, int... lanes) {
-        int kind = x.record(rule);
-        for (int i = 0; i < lanes.length; i++) {
-            x.more(kind, i + 1, lanes[i]);
-        }
-        return kind;
     }
 
     private static void promises16And17() {
@@ -98,7 +90,7 @@ public final class MakingTest {
 
     private static void makeClearsTheTray() {
         RecordBridge x = with(1, 4, 4);
-        int one = addKind(x, 0, 4);
+        int one = Kinds.addKind(x, 0, 4);
         x.give(0, 4, 2);
         x.give(1, 4, 1);
         x.give(5, 4, 9);
@@ -149,15 +141,15 @@ public final class MakingTest {
         Check.due("18 rule 1 alike", makePair(x, 0, 1, 7, 5, 7), 1);
         Check.due("18 rule 1 greater", makePair(x, 0, 1, 7, 5, 6), THROWN);
         Check.due("18 fault", x.fault(), 5);
-        int floats = addKind(x, 1, 5, 6);
+        int floats = Kinds.addKind(x, 1, 5, 6);
         Check.due("18 rule 1 not of floats", makePair(x, floats, 5, 9, 6, 1), 2);
-        int truths = addKind(x, 1, 0, 4);
+        int truths = Kinds.addKind(x, 1, 0, 4);
         Check.due("18 rule 1 not of truths", makePair(x, truths, 0, 1, 4, 0), 3);
-        int single = addKind(x, 1, 4);
+        int single = Kinds.addKind(x, 1, 4);
         x.give(0, 4, 3);
         Check.due("18 rule 1 of one part", x.make(single), 4);
-        Check.due("18 rule 1 of none", x.make(addKind(x, 1)), 5);
-        int signs = addKind(x, 1, 2, 3);
+        Check.due("18 rule 1 of none", x.make(Kinds.addKind(x, 1)), 5);
+        int signs = Kinds.addKind(x, 1, 2, 3);
         Check.due("18 rule 1 sign above short", makePair(x, signs, 2, -1, 3, -1), THROWN);
     }
 
@@ -168,11 +160,11 @@ public final class MakingTest {
         Check.due("18 rule 2 greater", makePair(x, 0, 1, 5, 5, -300), 1);
         Check.due("18 rule 2 cut", x.part(1, 0), -44);
         Check.due("18 rule 2 widened", x.part(1, 1), 5);
-        int signs = addKind(x, 2, 2, 3);
+        int signs = Kinds.addKind(x, 2, 2, 3);
         Check.due("18 rule 2 of signs", makePair(x, signs, 2, 40000, 3, -1), 2);
         Check.due("18 rule 2 a short cut to a sign", x.part(2, 0), 65535);
         Check.due("18 rule 2 a sign cut to a short", x.part(2, 1), -25536);
-        int floats = addKind(x, 2, 4, 7);
+        int floats = Kinds.addKind(x, 2, 4, 7);
         Check.due("18 rule 2 not of doubles", makePair(x, floats, 4, 9, 7, 1), 3);
         Check.due("18 rule 2 not exchanged", x.part(3, 0), 9);
     }
@@ -183,7 +175,7 @@ public final class MakingTest {
         x.give(0, 4, -1);
         x.hand(2, 0, true);
         Check.due("18 rule 3 no thing", x.make(0), THROWN);
-        int plain = addKind(x, 0);
+        int plain = Kinds.addKind(x, 0);
         x.hand(2, -1, true);
         Check.due("18 a thing", x.make(plain), 0);
         x.give(0, 4, -1);
@@ -238,7 +230,7 @@ public final class MakingTest {
 
     private static void sizeIsFull() {
         RecordBridge x = with(0);
-        int pair = addKind(x, 0, 9, 9, 8);
+        int pair = Kinds.addKind(x, 0, 9, 9, 8);
         x.make(0);
         x.row(8, 20);
         for (int i = 0; i < 20; i++) {
@@ -303,7 +295,7 @@ public final class MakingTest {
             Check.due("18 values", x.make(0), i);
         }
         Check.due("18 full", x.make(0), FULL);
-        int other = addKind(x, 0, 4);
+        int other = Kinds.addKind(x, 0, 4);
         Check.due("18 full ahead of faults", x.make(other), FULL);
         Check.due("18 it has not started", x.info(other, 3), 0);
         Check.due("18 of constants ahead of full", x.make(x.constants(0)), NO);

@@ -2,9 +2,12 @@ import java.util.ArrayList;
 import java.util.List;
 import java.util.Random;
 
-/** Long runs of calls, drawn by chance from a fixed seed, on RecordBridge and on Model: all answers are alike. */
+/**
+ * Runs of 512 calls, as long as the document lets an object be used, drawn by chance from a fixed seed, on RecordBridge
+ * and on Model: all answers are alike.
+ */
 public final class ModelTest {
-    private static final int RUNS = 6000, CALLS = 512;
+    private static final int RUNS = 10000, CALLS = 512, LAST_CALLS = 8;
     private static final long[] NUMBERS = {
         0, 1, -1, 2, 3, 127, 128, -129, 255, 32768, 65535, 65536, -32769, 16777217, -16777219, 2147483648L,
         9007199254740993L, Long.MAX_VALUE, Long.MIN_VALUE,
@@ -25,6 +28,7 @@ public final class ModelTest {
     private final int oddness;
     private final int thrift;
     private boolean isWrong;
+    private int calls;
 
     private ModelTest(long seed) {
         random = new Random(seed);
@@ -68,39 +72,63 @@ public final class ModelTest {
     /** Some runs begin with little room left, so that they come to FULL. */
     private void crowd(java.util.Map<String, Integer> seen) {
         int rows = random.nextInt(4) == 0 ? 45 + random.nextInt(15) : 0;
-        for (int i = 0; i < rows && !isWrong; i++) {
+        for (int i = 0; i < rows && hasMore(); i++) {
             look(seen, "row", random.nextInt(9), random.nextInt(5));
         }
         int values = random.nextInt(4) == 0 ? 170 + random.nextInt(30) : 0;
         if (values > 0) {
             look(seen, "record", 0);
         }
-        for (int i = 0; i < values && !isWrong; i++) {
+        for (int i = 0; i < values && hasMore(); i++) {
             look(seen, "make", 0);
         }
     }
 
     private void go(java.util.Map<String, Integer> seen) {
         crowd(seen);
-        for (int i = 0; i < CALLS && !isWrong; i++) {
+        while (hasMore()) {
             String name = OFTEN[random.nextInt(OFTEN.length)];
             if (name.equals("build")) {
                 build(seen);
             } else if (name.equals("fill")) {
                 fill(seen);
             } else {
-                boolean isNew = name.equals("row") || name.equals("twin") || name.equals("record") || name.equals("constants");
-                if (!isNew || random.nextInt(1 + thrift) == 0) {
-                    look(seen, name, arguments(name));
-                }
-                if (name.equals("record") || name.equals("constants")) {
-                    addParts(seen);
-                }
+                lookOnce(seen, name);
+            }
+        }
+        lookAtTheEnd(seen);
+    }
+
+    private void lookOnce(java.util.Map<String, Integer> seen, String name) {
+        boolean isKind = name.equals("record") || name.equals("constants");
+        boolean isNew = isKind || name.equals("row") || name.equals("twin");
+        if (isNew && random.nextInt(1 + thrift) > 0) {
+            return;
+        }
+        int kinds = model.kinds.size();
+        look(seen, name, arguments(name));
+        if (isKind && model.kinds.size() > kinds) {
+            addParts(seen);
+        }
+    }
+
+    private boolean hasMore() {
+        return !isWrong && calls < CALLS - LAST_CALLS;
+    }
+
+    /** What is told behind all calls: a state that went wrong unseen is seen here. */
+    private void lookAtTheEnd(java.util.Map<String, Integer> seen) {
+        for (int what = 0; what < LAST_CALLS && !isWrong; what++) {
+            if (what < 6) {
+                look(seen, "told", what);
+            } else {
+                look(seen, what == 6 ? "trace" : "fault");
             }
         }
     }
 
     private void look(java.util.Map<String, Integer> seen, String name, long... a) {
+        calls++;
         long want = model.call(name, a);
         long got;
         try {
@@ -111,27 +139,10 @@ public final class ModelTest {
             got = want;
         }
         log.add(name + java.util.Arrays.toString(a) + " answered " + got + (got == want ? "" : ", due is " + want));
-        boolean isAlike = got == want && bridge.trace() == model.trace && bridge.fault() == model.fault;
-        for (int what = 0; what < 6; what++) {
-            isAlike &= bridge.told(what) == model.call("told", new long[] {what});
-        }
-        if (!isAlike && got == want) {
-            log.add("but what is told behind it is not alike");
-        }
-        isWrong |= !isAlike;
-        if (name.equals("show")) {
-            lookAtBytes();
-        }
+        isWrong |= got != want;
         seen.merge(name + " " + (want >= -101 && want <= 9 ? want : 10), 1, Integer::sum);
-    }
-
-    private void lookAtBytes() {
-        for (int i = -1; i <= model.shown.length(); i++) {
-            if (bridge.byteAt(i) != model.call("byteAt", new long[] {i})) {
-                log.add("byte " + i + " is not alike, due is " + model.shown);
-                isWrong = true;
-                return;
-            }
+        if (name.equals("show") && hasMore()) {
+            look(seen, "byteAt", model.shown.length() - random.nextInt(3));
         }
     }
 
@@ -139,20 +150,24 @@ public final class ModelTest {
     private void addParts(java.util.Map<String, Integer> seen) {
         int kind = model.kinds.size() - 1;
         int count = random.nextInt(9);
-        for (int i = 0; i < count && kind >= 0 && !isWrong; i++) {
+        for (int i = 0; i < count && kind >= 0 && hasMore(); i++) {
             int lane = random.nextInt(3) == 0 ? 8 + random.nextInt(2) : near(10);
             look(seen, "more", kind, i < 2 ? i + 1 : word(), lane);
         }
     }
 
-    /** A tray that fits, mostly, and then make(). */
+    /** A tray that fits, mostly, and then make(); of CONSTANTS one that is there, mostly. */
     private void build(java.util.Map<String, Integer> seen) {
         if (model.kinds.isEmpty()) {
             return;
         }
         int kind = random.nextInt(model.kinds.size());
         List<Model.P> shape = model.kinds.get(kind).newest();
-        for (int k = 0; k < shape.size() && k < 6 && !isWrong; k++) {
+        if (model.kinds.get(kind).enumLike && !shape.isEmpty() && random.nextInt(8) > 0) {
+            look(seen, "named", kind, shape.get(random.nextInt(shape.size())).label());
+            return;
+        }
+        for (int k = 0; k < shape.size() && k < 6 && hasMore(); k++) {
             int lane = shape.get(k).lane();
             if (lane < 8) {
                 look(seen, "give", k, random.nextInt(4) == 0 ? Math.max(0, lane - 1) : lane, number());
@@ -161,7 +176,7 @@ public final class ModelTest {
                 look(seen, "hand", k, near(count), lane - 8);
             }
         }
-        if (!isWrong) {
+        if (hasMore()) {
             look(seen, "make", kind);
         }
     }
@@ -172,7 +187,7 @@ public final class ModelTest {
             Model.R r = model.rows.get(row);
             if (random.nextInt(3) > 0 && r.lane == 8 && !r.kept && !model.values.isEmpty()) {
                 int least = random.nextInt(4) == 0 ? 20 : 4;
-                for (int i = 0; i < r.n() && i < least && !isWrong; i++) {
+                for (int i = 0; i < r.n() && i < least && hasMore(); i++) {
                     look(seen, "lay", row, i, model.values.size() - 1 - random.nextInt(Math.min(3, model.values.size())));
                 }
                 return;
@@ -221,7 +236,7 @@ public final class ModelTest {
             case "match": return new long[] {near(model.families.size()), value};
             case "equal": case "order": return new long[] {value, near(model.values.size())};
             case "hash": case "weight": case "show": case "carry": return new long[] {value};
-            case "byteAt": return new long[] {near(40)};
+            case "byteAt": return new long[] {near(model.shown.length())};
             case "told": return new long[] {near(6)};
             default: return new long[0];
         }

@@ -26,22 +26,6 @@ public final class ValuesTest {
         Check.end();
     }
 
-    private static int addKind(RecordBridge x, int rule, int... lanes) {
-        int kind = x.record(rule);
-        for (int i = 0; i < lanes.length; i++) {
-            x.more(kind, i + 1, lanes[i]);
-        }
-        return kind;
-    }
-
-    private static int addConstants(RecordBridge x, int body, int... labels) {
-        int kind = x.constants(body);
-        for (int label : labels) {
-            x.more(kind, label, 0);
-        }
-        return kind;
-    }
-
     private static int makeNumber(RecordBridge x, int kind, int lane, long v) {
         x.give(0, lane, v);
         return x.make(kind);
@@ -54,8 +38,8 @@ public final class ValuesTest {
 
     private static void promises20And21() {
         RecordBridge x = new RecordBridge();
-        int kind = addKind(x, 0, 0, 6, 7, 8, 9);
-        addConstants(x, 0, 4);
+        int kind = Kinds.addKind(x, 0, 0, 6, 7, 8, 9);
+        Kinds.addConstants(x, 0, 4);
         x.row(4, 0);
         x.give(0, 0, 3);
         x.give(1, 4, -16777217);
@@ -88,8 +72,8 @@ public final class ValuesTest {
 
     private static void promise22() {
         RecordBridge x = new RecordBridge();
-        int kind = addKind(x, 0, 8);
-        int names = addConstants(x, 0, 4, 9);
+        int kind = Kinds.addKind(x, 0, 8);
+        int names = Kinds.addConstants(x, 0, 4, 9);
         x.hand(0, x.named(names, 9), false);
         int v = x.make(kind);
         Check.due("22 kind", x.of(v, 0), kind);
@@ -107,8 +91,8 @@ public final class ValuesTest {
 
     private static void promise23() {
         RecordBridge x = new RecordBridge();
-        int kind = addKind(x, 0, 9, 8);
-        addConstants(x, 0, 4);
+        int kind = Kinds.addKind(x, 0, 9, 8);
+        Kinds.addConstants(x, 0, 4);
         x.row(5, 2);
         x.put(0, 1, 5, 8);
         int v = makeRow(x, kind, 0);
@@ -140,7 +124,7 @@ public final class ValuesTest {
     private static void promise24() {
         RecordBridge x = new RecordBridge();
         for (int i = 0; i < 4; i++) {
-            addKind(x, 0);
+            Kinds.addKind(x, 0);
             x.make(i);
         }
         int sealed = x.family(1 + 4 + 8, true);
@@ -168,7 +152,7 @@ public final class ValuesTest {
     private static void promises25And26OfNumbers() {
         for (int lane = 0; lane <= 7; lane++) {
             RecordBridge x = new RecordBridge();
-            int kind = addKind(x, 0, lane);
+            int kind = Kinds.addKind(x, 0, lane);
             int zero = makeNumber(x, kind, lane, 0);
             int one = makeNumber(x, kind, lane, 1);
             int again = makeNumber(x, kind, lane, 1);
@@ -190,7 +174,7 @@ public final class ValuesTest {
 
     private static void promises25And26OfRows() {
         RecordBridge x = new RecordBridge();
-        int kind = addKind(x, 0, 9, 8);
+        int kind = Kinds.addKind(x, 0, 9, 8);
         x.row(5, 2);
         x.row(5, 3);
         x.row(4, 3);
@@ -226,8 +210,8 @@ public final class ValuesTest {
 
     private static void promises25And26OfEditions() {
         RecordBridge x = new RecordBridge();
-        int kind = addKind(x, 0, 4);
-        int names = addConstants(x, 0, 9, 3);
+        int kind = Kinds.addKind(x, 0, 4);
+        int names = Kinds.addConstants(x, 0, 9, 3);
         int nine = x.named(names, 9);
         int three = x.named(names, 3);
         int big = makeNumber(x, kind, 4, 1000);
@@ -245,10 +229,10 @@ public final class ValuesTest {
 
     private static void promise27() {
         RecordBridge x = new RecordBridge();
-        int kind = addKind(x, 0, 0, 1, 2, 5, 6, 7);
-        addKind(x, 0);
-        int boxes = addKind(x, 0, 8, 9);
-        int names = addConstants(x, 0, 9, 3);
+        int kind = Kinds.addKind(x, 0, 0, 1, 2, 5, 6, 7);
+        Kinds.addKind(x, 0);
+        int boxes = Kinds.addKind(x, 0, 8, 9);
+        int names = Kinds.addConstants(x, 0, 9, 3);
         for (int k = 0; k < 6; k++) {
             x.give(k, new int[] {0, 1, 2, 5, 6, 7}[k], -5_000_000_001L);
         }
@@ -293,15 +277,15 @@ public final class ValuesTest {
         int[][] traces = {{3}, {4, 3}, {4, 3}, {5, 4, 3}};
         for (int body = 0; body <= 3; body++) {
             RecordBridge x = new RecordBridge();
-            int names = addConstants(x, body, 9, 3);
+            int names = Kinds.addConstants(x, body, 9, 3);
             int three = x.named(names, 3);
             int before = x.trace();
             Check.due("28 body " + body, x.weight(three), weights[body]);
             Check.due("28 trace " + body, x.trace(), traceOf(before, traces[body]));
         }
         RecordBridge x = new RecordBridge();
-        int kind = addKind(x, 0, 8, 9, 8, 9);
-        int names = addConstants(x, 3, 9);
+        int kind = Kinds.addKind(x, 0, 8, 9, 8, 9);
+        int names = Kinds.addConstants(x, 3, 9);
         int name = x.named(names, 9);
         x.row(8, 3);
         x.row(0, 4);
@@ -327,10 +311,10 @@ public final class ValuesTest {
     private static void promises29And30() {
         RecordBridge x = new RecordBridge();
         for (int i = 0; i < 11; i++) {
-            addKind(x, 0);
+            Kinds.addKind(x, 0);
         }
-        int kind = addKind(x, 0, 0, 5, 6, 9, 8, 9);
-        int names = addConstants(x, 0, 98);
+        int kind = Kinds.addKind(x, 0, 0, 5, 6, 9, 8, 9);
+        int names = Kinds.addConstants(x, 0, 98);
         x.row(8, 3);
         x.row(0, 2);
         x.put(1, 1, 0, 1);
@@ -362,7 +346,7 @@ public final class ValuesTest {
 
     private static void promise29Full() {
         RecordBridge x = new RecordBridge();
-        int kind = addKind(x, 0, 9, 9, 9, 9, 9, 8);
+        int kind = Kinds.addKind(x, 0, 9, 9, 9, 9, 9, 8);
         x.row(5, 20);
         for (int i = 0; i < 20; i++) {
             x.put(0, i, 5, Long.MIN_VALUE);
@@ -417,7 +401,7 @@ public final class ValuesTest {
 
     private static void promise31() {
         RecordBridge x = new RecordBridge();
-        int kind = addKind(x, 0, 4, 6, 8, 9);
+        int kind = Kinds.addKind(x, 0, 4, 6, 8, 9);
         x.row(4, 1);
         x.give(0, 4, -7);
         x.give(1, 4, 16777217);
@@ -442,7 +426,7 @@ public final class ValuesTest {
 
     private static void promise31Faults() {
         RecordBridge x = new RecordBridge();
-        int kind = addKind(x, 0, 4, 8);
+        int kind = Kinds.addKind(x, 0, 4, 8);
         int v = makeNumber(x, kind, 4, 0);
         x.edition(kind, 2, 2, 9);
         Check.due("31 nothing of another lane", x.carry(v), CAST);
@@ -453,7 +437,7 @@ public final class ValuesTest {
         Check.shown("31 dropped", x, 1, "0(1=0)");
         x.edition(kind, 2, 1, 3);
         Check.due("31 an int to a short", x.carry(v), CAST);
-        int truth = addKind(x, 0, 4);
+        int truth = Kinds.addKind(x, 0, 4);
         int w = makeNumber(x, truth, 4, 1);
         x.edition(truth, 0, 2, 0);
         x.edition(truth, 0, 3, 6);
@@ -463,10 +447,10 @@ public final class ValuesTest {
 
     private static void promise31Rules() {
         RecordBridge x = new RecordBridge();
-        int rising = addKind(x, 1, 4, 4);
-        int exchanged = addKind(x, 2, 4, 4);
-        int whole = addKind(x, 3, 4);
-        int twins = addKind(x, 4, 9, 9);
+        int rising = Kinds.addKind(x, 1, 4, 4);
+        int exchanged = Kinds.addKind(x, 2, 4, 4);
+        int whole = Kinds.addKind(x, 3, 4);
+        int twins = Kinds.addKind(x, 4, 9, 9);
         for (int kind = 0; kind < 2; kind++) {
             x.give(0, 4, 1);
             x.give(1, 4, 70000);
@@ -497,10 +481,10 @@ public final class ValuesTest {
 
     private static void promise31Full() {
         RecordBridge x = new RecordBridge();
-        int kind = addKind(x, 0, 4);
+        int kind = Kinds.addKind(x, 0, 4);
         int v = makeNumber(x, kind, 4, 1);
         x.edition(kind, 2, 1, 3);
-        int plain = addKind(x, 0);
+        int plain = Kinds.addKind(x, 0);
         while (x.told(3) < 200) {
             x.make(plain);
         }
@@ -511,7 +495,7 @@ public final class ValuesTest {
 
     private static void promise31Constants() {
         RecordBridge x = new RecordBridge();
-        int names = addConstants(x, 0, 5, 6);
+        int names = Kinds.addConstants(x, 0, 5, 6);
         int five = x.named(names, 5);
         int six = x.named(names, 6);
         Check.due("31 itself", x.carry(five), five);
@@ -532,8 +516,8 @@ public final class ValuesTest {
     private static void promises32To34() {
         RecordBridge x = new RecordBridge();
         Check.due("33 none so far", x.fault(), 0);
-        int kind = addKind(x, 0, 4);
-        int other = addKind(x, 0);
+        int kind = Kinds.addKind(x, 0, 4);
+        int other = Kinds.addKind(x, 0);
         Check.due("34 kinds", x.told(1), 2);
         Check.due("34 started", x.told(4), 0);
         x.make(other);
