@@ -50,7 +50,10 @@ public final class ModelTest {
             }
         }
         Check.due("wrong runs", wrongRuns, 0);
-        wasSeen(seen);
+        // fewer runs may well miss what is rare
+        if (runs >= RUNS) {
+            wasSeen(seen);
+        }
         if (args.length > 0) {
             seen.forEach((k, n) -> System.out.println(k + " " + n));
         }
